@@ -141,6 +141,18 @@ public final class AskedTest {
     due("down of -1", x.down(-1), -1);
     due("byThese of 2", x.byThese(2), -1);
     due("byThese of -1", x.byThese(-1), -1);
+    x = Checks.on("street 1 0;house 0 5 0;line 0 1 1;line 0 1 1;line 0 1 4");
+    due("one is fewer than two", x.fewest(0, 0), 1);
+    due("though its set comes later", x.fewest(0, 1), 4);
+    x = Checks.on("street 1 0;house 0 5 0;line 0 1 1;line 0 1 1;line 0 1 4;line 0 1 1");
+    due("the one of one", x.fewest(0, 1), 4);
+    due("two are kept", x.byThese(1), 5);
+    x = Checks.on("street 1 0;house 0 1 0;house 1 1 0" + ";line 0 1 1".repeat(8));
+    due("all eight", x.down(0), 8);
+    due("all eight, set", x.down(1), 255);
+    x = Checks.on("street 1 0;house 0 8 0;house 1 1 0" + ";line 0 1 1".repeat(8));
+    due("all eight are needed", x.needed(), 255);
+    due("by all eight", x.byThese(1), 255);
     TannerBunting none = new TannerBunting();
     due("needed without a street", none.needed(), -1);
     due("fewest without a street", none.fewest(0, 0), -1);
@@ -217,6 +229,7 @@ public final class AskedTest {
     due("0 with nobody", x.marry(0), -1);
     due("1 with 3", x.marry(1), 3);
     due("2 with 4", x.marry(2), 4);
+    due("the second alone", Checks.on("street 2 0;line 1 2 1").marry(-1), 1);
     due("no lines", Checks.on("street 5 0").marry(-1), 0);
     due("with nobody", Checks.on("street 5 0").marry(4), -1);
   }
@@ -281,6 +294,10 @@ public final class AskedTest {
     due("both hold, or both let go", x.rests(0, 1, 1, 0), 2);
     x = Checks.on("street 2 0;line 0 2 1;line 1 3 1");
     due("each would hold", x.rests(0, 1, 1, 0), 1);
+    due("for 20 years", x.rests(0, 1, 20, 0), 1);
+    x = Checks.on("street 1 1;line 0 1 3");
+    due("the line is up behind the second year", x.rests(0, 1, 2, 0), 2);
+    due("not behind the third", x.rests(0, 1, 3, 0), 4);
   }
 
   private static void parted() {

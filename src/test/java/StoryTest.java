@@ -114,6 +114,8 @@ public final class StoryTest {
     due("then 5", x.seed(2147483647), 5);
     due("below 0", x.seed(-1), -1);
     due("stays", x.count(12), 2147483647);
+    due("0 is a number", x.seed(0), 2147483647);
+    due("0 then", x.count(12), 0);
   }
 
   /** Draws from 0: 0, 21468, 9988, 22117; from 1: 16838, 5758. */
