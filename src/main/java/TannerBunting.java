@@ -566,8 +566,8 @@ public final class TannerBunting {
     void begin() {
       tokens = 0;
       int next = 0;
-      while (next < length) {
-        // Each way goes on by one byte at least.
+      // Each step goes on by one byte at least.
+      for (int step = 0; step < MOST_BYTES && next < length; step++) {
         int first = byteAt(next);
         if (first == ' ') {
           next++;
