@@ -133,12 +133,13 @@ public final class TannerBunting {
 
   public int street() {
     int fault = streetReader.read();
+    // The tape is empty behind a fault, too; all else stays then.
+    text.length = 0;
     if (fault != 0) {
       return -2 - fault;
     }
     scene.beginWith(streetReader.fresh);
     past.clear();
-    text.length = 0;
     return scene.now.lines;
   }
 
@@ -147,11 +148,12 @@ public final class TannerBunting {
       return NONE;
     }
     int fault = ruleReader.read();
+    // The tape is empty behind a fault, too.
+    text.length = 0;
     if (fault != 0) {
       return -2 - fault;
     }
     rules[ruleCount] = ruleReader.copyOfCode();
-    text.length = 0;
     ruleCount++;
     return ruleCount - 1;
   }

@@ -576,26 +576,33 @@ final class PlainBunting {
   }
 
   int street() {
+    String text = takeTape();
     try {
-      Town town = new Parser(tape.toString()).town();
+      Town town = new Parser(text).town();
       all.town = town;
       all.told = town.copy();
       all.notes = new ArrayList<>();
       past.clear();
-      tape.setLength(0);
       return town.lines.size();
     } catch (Fault fault) {
       return -2 - fault.number;
     }
   }
 
+  /** The tape is empty then, whether its text has a fault or not. */
+  private String takeTape() {
+    String text = tape.toString();
+    tape.setLength(0);
+    return text;
+  }
+
   int makeRule() {
     if (rules.size() == 6) {
       return -1;
     }
+    String text = takeTape();
     try {
-      rules.add(new Parser(tape.toString()).rule());
-      tape.setLength(0);
+      rules.add(new Parser(text).rule());
       return rules.size() - 1;
     } catch (Fault fault) {
       return -2 - fault.number;

@@ -53,7 +53,8 @@ public final class TextsTest {
     due("LONG", x.count(0), 1);
     x.feed(-1, -1, -1, -1, -1);
     due("byte 255 can't stand", x.street(), Checks.fault(0, 0));
-    due("tape stays by a fault", x.count(13), 20);
+    due("tape is empty by a fault, too", x.count(13), 0);
+    due("feed behind a fault", x.feed(1, 2, 3, 4, 5), 20);
   }
 
   private static void streets() {
@@ -71,9 +72,49 @@ public final class TextsTest {
     due("same two", x.house(9, 3), 6);
     x = Checks.on("street 1 0;house 0 60 0");
     due("stands whatever holds it", x.house(0, 2), 1);
-    due("a fault", Checks.street(x, "street 1 1;"), Checks.fault(11, 0));
-    due("all stays", x.house(0, 0), 60);
-    due("the tape stays", x.count(13), 11);
+  }
+
+  /** Behind a fault the tape is empty, and all but the tape as it was. */
+  private static void faultEmptiesTapeAlone() {
+    TannerBunting x = Checks.on(Checks.SAMPLE);
+    Checks.rule(x, "keep pull");
+    x.force(0);
+    x.seed(77);
+    x.note(1, 0, 1);
+    x.tighten(0, 9);
+    x.image(2);
+    x.year();
+    int[] before = counts(x);
+    String[] faulty = {"", " ", "street 1 1;", "street 1 1;house 0 9 9;line 0 0 1", "keep 1 if"};
+    for (String text : faulty) {
+      due("street of " + text, Checks.street(x, text) < -2 ? 1 : 0, 1);
+      stays(x, before, "street of " + text);
+      due("the end of the tape, behind " + text, x.street(), Checks.fault(0, 0));
+      due("rule of " + text, Checks.rule(x, text) < -2 ? 1 : 0, 1);
+      stays(x, before, "rule of " + text);
+      due("the end of the tape, behind " + text, x.rule(), Checks.fault(0, 0));
+    }
+    due("feed behind faults", x.feed(0, 0, 0, 0, 0), 20);
+    due("house 0 is as it was", x.house(0, 0), 10);
+    due("two acts are left", x.undo(), 1);
+    due("one act is left", x.undo(), 0);
+    due("line 0 pulls as told", x.line(0, 2), 6);
+    due("the image stays", x.back(2), 0);
+    due("line 0 pulls as in it", x.line(0, 2), 15);
+  }
+
+  private static int[] counts(TannerBunting x) {
+    int[] counts = new int[14];
+    for (int what = 0; what < counts.length; what++) {
+      counts[what] = x.count(what);
+    }
+    return counts;
+  }
+
+  private static void stays(TannerBunting x, int[] before, String behind) {
+    for (int what = 0; what < before.length; what++) {
+      due("count(" + what + ") behind " + behind, x.count(what), before[what]);
+    }
   }
 
   private static void streetInPlace() {
@@ -140,6 +181,7 @@ public final class TextsTest {
     due("a seventh", Checks.rule(x, "keep 1"), -1);
     due("nothing happens", x.count(13), 6);
     due("a seventh, faulty", Checks.rule(x, "keep"), -1);
+    due("nothing happens then", x.count(13), 4);
     due("six", x.count(3), 6);
     due("force(5)", x.force(5), -1);
     due("force(6)", x.force(6), -2);
@@ -150,7 +192,8 @@ public final class TextsTest {
     x = new TannerBunting();
     due("a fault", Checks.rule(x, "keep 1 if"), Checks.fault(9, 0));
     due("no rule by it", x.count(3), 0);
-    due("tape stays", x.count(13), 9);
+    due("tape is empty by a fault, too", x.count(13), 0);
+    due("a rule behind a fault", Checks.rule(x, "keep 1"), 0);
   }
 
   private static void ruleFaults() {
@@ -222,6 +265,7 @@ public final class TextsTest {
     newObject();
     feedAndEnd();
     streets();
+    faultEmptiesTapeAlone();
     streetInPlace();
     streetFaults();
     rules();
