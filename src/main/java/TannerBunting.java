@@ -1318,8 +1318,9 @@ public final class TannerBunting {
       }
     }
 
+    /** NONE, if nothing was told. */
     int lastYear() {
-      int last = 0;
+      int last = NONE;
       for (int i = 0; i < size && i < MOST_NOTES; i++) {
         last = Math.max(last, when[i]);
       }
@@ -1608,13 +1609,15 @@ public final class TannerBunting {
       }
     }
 
-    /** In which year from now on, 1 the first, any of these houses falls; fallen has all of that year. */
+    /** The number of the first year in which any of these houses falls; fallen has all of that year. */
     int firstFall(Street now, int[] rule, int houseBits) {
       begin(now);
-      for (int n = 1; n <= YEARS_LOOKED; n++) {
+      for (int n = 0; n < YEARS_LOOKED; n++) {
+        // A year bears the number that it begins with.
+        int year = trial.year;
         fallen = judge.passYear(trial, rule);
         if ((fallen & houseBits) != 0) {
-          return n;
+          return year;
         }
         if (trial.up == 0) {
           return NONE;
@@ -1765,11 +1768,9 @@ public final class TannerBunting {
     private boolean fits(Notes notes, int[] rule) {
       int last = notes.lastYear();
       for (int n = 0; n <= last; n++) {
+        judge.passYear(trial, rule);
         if (!notes.fit(trial, n)) {
           return false;
-        }
-        if (n < last) {
-          judge.passYear(trial, rule);
         }
       }
       return true;
@@ -1808,7 +1809,8 @@ public final class TannerBunting {
         if (fits(scene.notes, code)) {
           take(rule);
           trial.copyFrom(scene.told);
-          for (int i = 0; i < n; i++) {
+          // The first year is 0, so behind the n-th one more has gone by.
+          for (int i = 0; i <= n; i++) {
             judge.passYear(trial, code);
           }
           countStanding();

@@ -38,9 +38,9 @@ public final class AskedTest {
 
   private static void falling() {
     TannerBunting x = Checks.on(Checks.SAMPLE);
-    due("first year", x.falls(0), 1);
+    due("in this year, which is 0", x.falls(0), 0);
     due("least", x.falls(1), 0);
-    due("lasts 3", x.lasts(3), 1);
+    due("lasts 3", x.lasts(3), 0);
     due("lasts 1", x.lasts(1), -2);
     due("what 2", x.falls(2), -1);
     due("what -1", x.falls(-1), -1);
@@ -51,28 +51,37 @@ public final class AskedTest {
     due("which in none", x.falls(1), -2);
     due("one that fell", x.lasts(3), -1);
     x = Checks.on(FADING);
-    due("fourth", x.falls(0), 4);
+    due("in year 3", x.falls(0), 3);
     due("which", x.falls(1), 0);
-    due("lasts", x.lasts(0), 4);
+    due("lasts", x.lasts(0), 3);
     x.year();
-    due("third then", x.falls(0), 3);
-    due("lasts then", x.lasts(0), 3);
+    due("in year 3 still", x.falls(0), 3);
+    due("lasts to year 3 still", x.lasts(0), 3);
+    x.year();
+    x.year();
+    due("in this year, which is 3", x.falls(0), x.count(5));
+    due("lasts to this year", x.lasts(0), x.count(5));
+    due("falls by hand", x.year(), 1);
     due("without a street", new TannerBunting().falls(0), -1);
     due("lasts without a street", new TannerBunting().lasts(0), -1);
     x = Checks.on("street 1 0;house 1 5 0;line 0 1 5");
     Checks.rule(x, "keep 199 - year");
     Checks.rule(x, "keep 200 - year");
     x.force(0);
-    due("the 200th", x.falls(0), 200);
+    due("the 200th", x.falls(0), 199);
     due("which of the 200th", x.falls(1), 1);
-    due("lasts to the 200th", x.lasts(1), 200);
+    due("lasts to the 200th", x.lasts(1), 199);
     x.force(1);
     due("the 201st", x.falls(0), -2);
+    due("which of the 201st", x.falls(1), -2);
     due("lasts to the 201st", x.lasts(1), -2);
+    x.year();
+    due("the 200th from year 1 on", x.falls(0), 200);
+    due("lasts to the 200th from year 1 on", x.lasts(1), 200);
     x = Checks.on("street 1 1;house 0 1 0;house 1 4 0;line 0 1 6");
-    due("1 falls first, and takes its line", x.falls(0), 3);
+    due("1 falls first, and takes its line", x.falls(0), 2);
     due("least of that year", x.falls(1), 0);
-    due("0 by it", x.lasts(0), 3);
+    due("0 by it", x.lasts(0), 2);
   }
 
   private static void spared() {

@@ -708,10 +708,10 @@ final class PlainBunting {
       return -1;
     }
     Town town = all.town.copy();
-    for (int n = 1; n <= 200; n++) {
+    for (int n = 0; n < 200; n++) {
       int fallen = town.pass(rule());
       if (fallen != 0) {
-        return what == 0 ? n : Integer.numberOfTrailingZeros(fallen);
+        return what == 0 ? all.town.year + n : Integer.numberOfTrailingZeros(fallen);
       }
     }
     return -2;
@@ -722,10 +722,10 @@ final class PlainBunting {
       return -1;
     }
     Town town = all.town.copy();
-    for (int n = 1; n <= 200; n++) {
+    for (int n = 0; n < 200; n++) {
       town.pass(rule());
       if (!town.stands(house)) {
-        return n;
+        return all.town.year + n;
       }
     }
     return -2;
@@ -885,8 +885,13 @@ final class PlainBunting {
     return best[what];
   }
 
+  /** The first year is 0, so behind the n-th year n + 1 have gone by. */
+  private static Town behind(Town told, int n, Rule rule) {
+    return told.after(n + 1, rule);
+  }
+
   private boolean fits(Town told, Rule rule) {
-    return all.notes.stream().allMatch(note -> told.after(note[0], rule).stands(note[1]) == (note[2] == 1));
+    return all.notes.stream().allMatch(note -> behind(told, note[0], rule).stands(note[1]) == (note[2] == 1));
   }
 
   int pulled(int line, int what) {
@@ -1009,7 +1014,7 @@ final class PlainBunting {
     int fewest = 99;
     for (int house = 0; house < all.town.houses.size(); house++) {
       int h = house;
-      int stand = (int) found.stream().filter(r -> all.told.after(n, r < 0 ? null : rules.get(r)).stands(h)).count();
+      int stand = (int) found.stream().filter(r -> behind(all.told, n, r < 0 ? null : rules.get(r)).stands(h)).count();
       int alike = Math.max(stand, found.size() - stand);
       if (alike < fewest) {
         fewest = alike;

@@ -32,13 +32,13 @@ public final class StoryTest {
     due("all", x.pulled(0, 0), 40);
     due("least of all", x.pulled(0, 1), 1);
     x.note(4, 0, 1);
-    due("from 7", x.pulled(0, 0), 34);
-    due("7", x.pulled(0, 1), 7);
+    due("from 8", x.pulled(0, 0), 33);
+    due("8", x.pulled(0, 1), 8);
     x.note(6, 0, 0);
     due("two", x.pulled(0, 0), 2);
     x.tighten(0, 9);
     x.year();
-    due("from the begin on", x.pulled(0, 1), 7);
+    due("from the begin on", x.pulled(0, 1), 8);
     x.note(4, 0, 0);
     due("none", x.pulled(0, 0), 0);
     due("no least", x.pulled(0, 1), -2);
@@ -46,7 +46,7 @@ public final class StoryTest {
     Checks.rule(x, "keep pull - 5");
     x.force(0);
     x.note(4, 0, 1);
-    due("by the rule in force", x.pulled(0, 1), 9);
+    due("by the rule in force", x.pulled(0, 1), 10);
     due("what 2", x.pulled(0, 2), -1);
     due("what -1", x.pulled(0, -1), -1);
     due("no line", x.pulled(1, 0), -1);
@@ -56,7 +56,36 @@ public final class StoryTest {
     due("without a street", new TannerBunting().pulled(0, 0), -1);
   }
 
-  /** By none and by rule 0 house 0 falls in the fourth year, by 1 in the second, by 2 in the first. */
+  /** Behind the n-th year n + 1 have gone by, as the first is year 0. */
+  private static void pullsAtEdges() {
+    TannerBunting x = Checks.on("street 1 1;house 0 9 0;line 0 1 9");
+    x.note(0, 0, 1);
+    due("10 and more stand behind year 0", x.pulled(0, 0), 31);
+    due("10", x.pulled(0, 1), 10);
+    x.note(-1, 0, 0);
+    x.note(0, 0, 0);
+    due("9 and less don't", x.pulled(0, 0), 9);
+    due("1", x.pulled(0, 1), 1);
+    x = Checks.on("street 1 0;house 0 1 0;line 0 1 1");
+    Checks.rule(x, "keep 60 - year");
+    Checks.rule(x, "keep 61 - year");
+    x.note(60, 0, 0);
+    due("not without a rule", x.pulled(0, 0), 0);
+    x.force(0);
+    due("let go in year 60", x.pulled(0, 0), 40);
+    x.force(1);
+    due("let go in year 61", x.pulled(0, 1), -2);
+    due("one rule", x.ruled(0), 1);
+    due("which lets go in year 60", x.ruled(1), 0);
+    x.note(-1, 0, 0);
+    due("one of three behind year 60", x.look(60, 1), 2);
+    due("by house 0", x.look(60, 0), 0);
+    due("none of three behind year 59", x.look(59, 1), 3);
+    x.note(59, 0, 1);
+    due("all three", x.ruled(0), 3);
+  }
+
+  /** By none and by rule 0 house 0 falls in year 3, by 1 in year 1, by 2 in year 0. */
   private static TannerBunting ruledStreet() {
     TannerBunting x = Checks.on(FADING);
     Checks.rule(x, "keep 1");
@@ -74,7 +103,7 @@ public final class StoryTest {
     due("1 first", x.ruled(1), 1);
     x.year();
     x.force(2);
-    x.note(1, 0, 1);
+    x.note(0, 0, 1);
     due("one", x.ruled(0), 1);
     due("1", x.ruled(1), 1);
     x.note(3, 0, 1);
@@ -83,6 +112,12 @@ public final class StoryTest {
     due("look without one", x.look(1, 0), -2);
     due("how many without one", x.look(1, 1), -2);
     due("what 2", x.ruled(2), -3);
+    x.note(-1, 0, 0);
+    x.note(3, 0, 0);
+    due("all fell by year 3", x.ruled(0), 4);
+    x.note(2, 0, 1);
+    due("two stood behind year 2", x.ruled(0), 2);
+    due("none first of these", x.ruled(1), -1);
     due("what -1", x.ruled(-1), -3);
     due("without a street", new TannerBunting().ruled(0), -3);
   }
@@ -90,13 +125,16 @@ public final class StoryTest {
   private static void looks() {
     TannerBunting x = ruledStreet();
     due("behind 0", x.look(0, 0), 0);
-    due("all alike", x.look(0, 1), 4);
+    due("three alike", x.look(0, 1), 3);
     due("behind 1", x.look(1, 0), 0);
-    due("three alike", x.look(1, 1), 3);
-    due("two alike", x.look(2, 1), 2);
+    due("two alike", x.look(1, 1), 2);
+    due("two alike still", x.look(2, 1), 2);
+    due("behind 3", x.look(3, 0), 0);
+    due("all alike", x.look(3, 1), 4);
     due("behind 60", x.look(60, 1), 4);
     x.note(2, 0, 0);
-    due("one alike", x.look(1, 1), 1);
+    due("one alike", x.look(0, 1), 1);
+    due("both alike", x.look(1, 1), 2);
     due("n 61", x.look(61, 0), -1);
     due("n -1", x.look(-1, 0), -1);
     due("what 2", x.look(0, 2), -1);
@@ -104,8 +142,8 @@ public final class StoryTest {
     due("without a street", new TannerBunting().look(0, 0), -1);
     x = Checks.on("street 1 0;house 1 5 0;line 0 1 5");
     Checks.rule(x, "keep 0");
-    due("the other house", x.look(1, 0), 1);
-    due("one each", x.look(1, 1), 1);
+    due("the other house", x.look(0, 0), 1);
+    due("one each", x.look(0, 1), 1);
   }
 
   private static void seeds() {
@@ -192,7 +230,7 @@ public final class StoryTest {
     }
     due("nothing to undo", x.undo(), -1);
     due("notes are as they were", x.ruled(0), 2);
-    due("what was told, too", x.pulled(0, 0), 6);
+    due("what was told, too", x.pulled(0, 0), 7);
     x.cut(0);
     due("back once more", x.back(3), 1);
     due("up again", x.count(7), 1);
@@ -212,6 +250,7 @@ public final class StoryTest {
   public static void main(String[] args) {
     notes();
     pulls();
+    pullsAtEdges();
     rules();
     looks();
     seeds();
