@@ -13,6 +13,9 @@ public final class AgainstPlainTest {
   private static final String[] BROKEN = {"x", ";", "[", "]", "not", "and", "or", "if", "keep", "street", "house",
       "line", "123456", "99999", "41", "0", " ", "<", "=", ">=", "+", "%", "\u00e9", "A", "=<", "- -"};
 
+  private static final int[] FAR = {Integer.MIN_VALUE, Integer.MIN_VALUE + 1, -65536, -256, -32, -3, 31, 32, 33, 64,
+      256, 65536, 1 << 30, Integer.MAX_VALUE - 1, Integer.MAX_VALUE};
+
   private final Random random;
   private final TannerBunting program = new TannerBunting();
   private final PlainBunting plain = new PlainBunting();
@@ -32,8 +35,9 @@ public final class AgainstPlainTest {
     return random.nextInt(100) < percent;
   }
 
-  private int ask(String name, int... a) {
+  private int ask(String name, int... meant) {
     calls++;
+    int[] a = strayed(name, meant);
     int want = plain.call(name, a);
     int got = answer(name, a);
     told.add(name + Arrays.toString(a) + " " + got);
@@ -43,6 +47,16 @@ public final class AgainstPlainTest {
       System.out.println("due is " + want);
     }
     return want;
+  }
+
+  /** Now and then a number that is far from all that can be meant; what is fed is any number. */
+  private int[] strayed(String name, int[] meant) {
+    if (meant.length == 0 || name.equals("feed") || name.equals("end") || !chance(3)) {
+      return meant;
+    }
+    int[] a = meant.clone();
+    a[draw(0, a.length - 1)] = FAR[draw(0, FAR.length - 1)];
+    return a;
   }
 
   private int answer(String name, int[] a) {
