@@ -8,6 +8,8 @@ import java.util.Arrays;
 import java.util.List;
 import java.util.Set;
 import java.util.TreeSet;
+import java.util.regex.Matcher;
+import java.util.regex.Pattern;
 import java.util.stream.Collectors;
 
 /** The document's face and no more, and what of LANGUAGE.md can be seen from outside. */
@@ -19,6 +21,8 @@ public final class FaceTest {
       "count/1", "image/1", "back/1");
   private static final List<String> RULED_OUT = List.of("throw", "try", "catch", "synchronized", "assert", "import",
       "->", "::", "System.out", "protected");
+
+  private static final Pattern TOLD = Pattern.compile("    public int (\\w+)\\((.*)\\);");
 
   private static int wrong = 0;
 
@@ -54,6 +58,20 @@ public final class FaceTest {
     }
   }
 
+  /** The document's own list of the face, so that ours can't stray from it. */
+  private static void document() throws IOException {
+    Set<String> told = new TreeSet<>();
+    for (String line : Files.readAllLines(Path.of("../shared/DOC.md"))) {
+      Matcher method = TOLD.matcher(line);
+      if (method.matches()) {
+        String takes = method.group(2);
+        told.add(method.group(1) + "/" + (takes.isEmpty() ? 0 : takes.split(",").length));
+      }
+    }
+    hold("the methods tested are those that the document tells", told.equals(new TreeSet<>(FACE)));
+    hold("NONE is -1", TannerBunting.NONE == -1);
+  }
+
   private static void inside() {
     Class<?>[] classes = TannerBunting.class.getDeclaredClasses();
     hold("some twelve classes", classes.length <= 12);
@@ -86,6 +104,7 @@ public final class FaceTest {
 
   public static void main(String[] args) throws IOException {
     face();
+    document();
     inside();
     words();
     System.out.println(wrong == 0 ? "the face is as told" : wrong + " are not so");
